@@ -214,12 +214,12 @@ public final class PipeWorks {
             case 2: return pipes.mains;
             case 3: return pipes.valves;
             case 4: return orders.signCount;
-            case 5: return orders.orders;
+            case 5: return orders.orderCount;
             case 6: return dryCount;
             case 7: return spilt;
             case 8: return coalBurnt;
             case 9: return net.sweeps;
-            case 10: return blocks.blocks;
+            case 10: return blocks.blockCount;
             default: return OUTSIDE;
         }
     }
@@ -302,7 +302,7 @@ public final class PipeWorks {
             if (at == NONE) {
                 break;
             }
-            if (hasBit(rules, rule) && isDone(orders.signOf(order, at), orders.signOf(order, at + 1) - 'a')) {
+            if (hasBit(rules, rule) && tryAct(orders.signOf(order, at), orders.signOf(order, at + 1) - 'a')) {
                 done++;
             }
         }
@@ -466,18 +466,19 @@ public final class PipeWorks {
         return orders.rulesSo(order, known, levels, tick / TICKS % DAY);
     }
 
-    private boolean isDone(int act, int letter) {
-        return act == 'L' || act == 'D' ? isHouseSet(letter, act == 'L') : isValveSet(letter, act == 'S');
+    /** Whether an ACT changed something: only then it counts. */
+    private boolean tryAct(int act, int letter) {
+        return act == 'L' || act == 'D' ? trySetHouse(letter, act == 'L') : trySetValve(letter, act == 'S');
     }
 
-    private boolean isHouseSet(int node, boolean lit) {
+    private boolean trySetHouse(int node, boolean lit) {
         if (net.has(node) && net.things[node] instanceof House house) {
             return house.setLit(lit, tick) != lit;
         }
         return false;
     }
 
-    private boolean isValveSet(int main, boolean shut) {
+    private boolean trySetValve(int main, boolean shut) {
         int valve = pipes.valveTold(main);
         if (valve == NONE || pipes.isShut(valve) == shut) {
             return false;
@@ -1114,7 +1115,7 @@ public final class PipeWorks {
         private static final int TEST = 0, NODE = 1, COMPARE = 2, NUMBER = 3, ACT = 4, ACT_NODE = 5, ACT_MAIN = 6,
                 RULE_END = 7, FIGURES = 8, MOST_FIGURES = 5;
 
-        int signCount, orders;
+        int signCount, orderCount;
         private final int[] signs = new int[MOST_SIGNS];
         private final int[][] texts = new int[MOST_ORDERS][MOST_SIGNS];
         private final int[] sizes = new int[MOST_ORDERS], days = new int[MOST_ORDERS];
@@ -1135,20 +1136,20 @@ public final class PipeWorks {
         }
 
         int addOrder(int day) {
-            if (orders >= MOST_ORDERS) {
+            if (orderCount >= MOST_ORDERS) {
                 return FULL;
             }
             if (firstFault() != NONE) {
                 return NO;
             }
-            System.arraycopy(signs, 0, texts[orders], 0, MOST_SIGNS);
-            sizes[orders] = dropSigns();
-            days[orders] = day;
-            return orders++;
+            System.arraycopy(signs, 0, texts[orderCount], 0, MOST_SIGNS);
+            sizes[orderCount] = dropSigns();
+            days[orderCount] = day;
+            return orderCount++;
         }
 
         boolean hasOrder(int order) {
-            return order >= 0 && order < orders;
+            return order >= 0 && order < orderCount;
         }
 
         int firstFault() {
@@ -1193,7 +1194,7 @@ public final class PipeWorks {
 
         int inForce(int day) {
             int found = NONE;
-            for (int i = 0; i < orders; i++) {
+            for (int i = 0; i < orderCount; i++) {
                 if (days[i] <= day && (found == NONE || days[i] >= days[found])) {
                     found = i;
                 }
@@ -1273,7 +1274,7 @@ public final class PipeWorks {
         static final int HOUSES = 3, MOST_WEIGHTS = 200, NEVER = 1000000;
         private static final int MOST_BLOCKS = 8, SETS = 1 << HOUSES, UNSOLVED = -1;
 
-        int blocks;
+        int blockCount;
         private final int[] needs = new int[MOST_BLOCKS];
         private final int[] gives = new int[HOUSES], coals = new int[HOUSES];
         private final int[] givenBy = new int[SETS], burntBy = new int[SETS];
@@ -1281,18 +1282,18 @@ public final class PipeWorks {
         private boolean isPrepared;
 
         int addBlock(int need) {
-            if (blocks >= MOST_BLOCKS) {
+            if (blockCount >= MOST_BLOCKS) {
                 return FULL;
             }
-            needs[blocks] = need;
-            blocks++;
+            needs[blockCount] = need;
+            blockCount++;
             isPrepared = false;
-            return blocks;
+            return blockCount;
         }
 
         int dropBlocks() {
-            int was = blocks;
-            blocks = 0;
+            int was = blockCount;
+            blockCount = 0;
             isPrepared = false;
             return was;
         }
@@ -1310,7 +1311,7 @@ public final class PipeWorks {
 
         /** HOUSES LIT in a BLOCK of THE BEST, from weights that hold; NONE: no such BLOCK. */
         int litIn(int wanted, int weights) {
-            if (wanted < 0 || wanted >= blocks) {
+            if (wanted < 0 || wanted >= blockCount) {
                 return NONE;
             }
             prepare();
@@ -1327,7 +1328,7 @@ public final class PipeWorks {
         int firstFailure(int weights) {
             prepare();
             int left = weights;
-            for (int b = 0; b < blocks; b++) {
+            for (int b = 0; b < blockCount; b++) {
                 left = weightsBehind(b, b == 0 ? 0 : SETS - 1, left);
                 if (left < 0) {
                     return b;
@@ -1367,7 +1368,7 @@ public final class PipeWorks {
             if (weights < 0) {
                 return NEVER;
             }
-            if (block >= blocks) {
+            if (block >= blockCount) {
                 return 0;
             }
             int at = (block * SETS + ahead) * (MOST_WEIGHTS + 1) + weights;
