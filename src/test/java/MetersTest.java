@@ -37,6 +37,7 @@ final class MetersTest {
         Checks.due("16: work counts nothing", x.ofNode(1, 7), 0);
         x.step(10);
         Checks.due("16: strokes of a draw", x.ofNode(1, 7), 300);
+        Checks.due("45: 300 by 100", x.pay(1), 3);
         Checks.due("16: of a lift", x.ofNode(2, 7), 600);
         Checks.due("16: of a bridge", x.ofNode(3, 7), 300);
         Checks.due("16: none of a leak", x.ofNode(4, 7), 0);

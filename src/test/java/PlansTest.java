@@ -42,6 +42,7 @@ final class PlansTest {
         Checks.due("40: coal below", x.plan(0, 0, -1), PipeWorks.OUTSIDE);
         Checks.due("40: coal above", x.plan(0, 0, 101), PipeWorks.OUTSIDE);
         Checks.due("40: house", x.plan(2, 100, 100), 1);
+        Checks.due("40: one that gives nothing", x.plan(0, 0, 0), 1);
     }
 
     private static void best() {

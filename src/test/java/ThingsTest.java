@@ -103,6 +103,7 @@ final class ThingsTest {
     private static void lifts() {
         PipeWorks x = withNodes(2);
         fits(x, 2, x.lift(0, 1000, 6, 0, 1440));
+        fits(x, 2, x.lift(0, 0, 0, 0, 0));
         x.lift(0, 10, 5, 0, 1440);
         x.lift(1, 10, 5, 60, 61);
         for (int hour = 0; hour < 27; hour++) {
@@ -116,6 +117,7 @@ final class ThingsTest {
     private static void bridges() {
         PipeWorks x = withNodes(4);
         fits(x, 3, x.bridge(0, 1000, 720, 720, 720));
+        fits(x, 3, x.bridge(0, 0, 1, 0, 0));
         x.bridge(0, 30, 7, 3, 2);
         x.bridge(1, 30, 1, 0, 0);
         x.bridge(2, 30, 1, 0, 1);
@@ -134,6 +136,7 @@ final class ThingsTest {
     private static void towers() {
         PipeWorks x = withNodes(3);
         fits(x, 4, x.tower(0, 5000, 100000, 100000));
+        fits(x, 4, x.tower(0, 0, 1, 0));
         x.tower(0, 9, 50, 0);
         Checks.due("12: an empty one takes", x.ofNode(0, 3), 10);
         Checks.due("12: an empty one is no source", x.ofNode(0, 4), 0);
@@ -147,6 +150,7 @@ final class ThingsTest {
     private static void houses() {
         PipeWorks x = withNodes(2);
         fits(x, 5, x.house(0, 5000, 120, 100));
+        fits(x, 5, x.house(0, 0, 0, 0));
         Checks.due("17: no such node", x.light(2, true), PipeWorks.UNKNOWN);
         Checks.due("17: no house", x.light(0, true), PipeWorks.STATE);
         x.house(0, 10, 0, 0);
@@ -182,6 +186,7 @@ final class ThingsTest {
     private static void leaks() {
         PipeWorks x = withNodes(3);
         fits(x, 6, x.leak(0, 1000, false));
+        fits(x, 6, x.leak(0, 1, false));
         fits(x, 7, x.leak(0, 1000, true));
         x.leak(0, 5, false);
         x.leak(1, 5, true);

@@ -47,6 +47,13 @@ final class WorkingTest {
         Checks.due("19: two mains", x.work(), 2);
         Checks.due("21: (50 + 2 * 400) / 3, cut", x.press(1, 0), 283);
         Checks.due("21: less 10 times height", x.press(1, 1), 183);
+        x = new PipeWorks();
+        x.node(0, 0);
+        x.node(0, 0);
+        x.main(0, 1, 1);
+        x.tower(0, 50, 10, 10);
+        x.work();
+        Checks.due("21: by a main of width 1 alone", x.press(1, 0), 50);
     }
 
     private static void notSettled() {
