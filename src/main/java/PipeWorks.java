@@ -620,7 +620,7 @@ public final class PipeWorks {
 
         Bridge(int amount, int period, int phase, int length) {
             super(amount, 0, DAY);
-            this.period = period < 1 ? 1 : period;
+            this.period = period;
             this.phase = phase;
             this.length = length;
         }
@@ -630,7 +630,7 @@ public final class PipeWorks {
         }
 
         int takesIn(int minute) {
-            return (minute + phase) % period < length ? amount : 0;
+            return period > 0 && (minute + phase) % period < length ? amount : 0;
         }
     }
 
@@ -1030,7 +1030,7 @@ public final class PipeWorks {
                     return MOST_SWEEPS - left;
                 }
                 age++;
-                if (isAsMarked()) {
+                if (age > 0 && isAsMarked()) {
                     // HEADS go round in a ring for good: whole rounds can be left out.
                     left %= age;
                 } else if (age >= patience) {

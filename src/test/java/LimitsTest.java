@@ -11,6 +11,7 @@ final class LimitsTest {
     public static void main(String[] args) throws IllegalAccessException {
         fullNet();
         longTextWithManyRules();
+        allCalls();
         for (Method m : PipeWorks.class.getDeclaredMethods()) {
             if (Modifier.isPublic(m.getModifiers())) {
                 bears(m, false);
@@ -95,6 +96,30 @@ final class LimitsTest {
         tell(x, "ta>99998:La;ta>99999:La;ta<99999:La");
         x.order(0);
         Checks.due("numbers of five digits", x.why(1), 0b001);
+    }
+
+    /** 512 calls, most of them steps: days up to 35, counts far above a day's. */
+    private static void allCalls() {
+        PipeWorks x = new PipeWorks();
+        x.node(200, 0);
+        x.node(0, 3);
+        x.main(0, 1, 1000);
+        x.house(0, 5000, 0, 100);
+        x.light(0, true);
+        x.lift(1, 1000, 6, 0, 1440);
+        x.term(3, 100);
+        for (int i = 0; i < 500; i++) {
+            x.step(400);
+        }
+        Checks.due("24: tick", x.told(0), 200000);
+        Checks.due("24: coal of 50000 minutes", x.told(8), 5000000);
+        Checks.due("23: never dry", x.told(6), 0);
+        long strokes = 0;
+        for (int tick = 0; tick < 200000; tick++) {
+            strokes += 1000 * ((6 + 3 * (tick / 4 % 1440 / 60)) % 7);
+        }
+        Checks.due("44: strokes", x.ofNode(1, 7), strokes);
+        Checks.due("45: pay", x.pay(1), strokes / 100 * 100);
     }
 
     private static void bears(Method m, boolean isFull) throws IllegalAccessException {
