@@ -2,11 +2,14 @@ import java.lang.reflect.InvocationTargetException;
 import java.lang.reflect.Method;
 import java.lang.reflect.Modifier;
 import java.util.HashMap;
+import java.util.HashSet;
 import java.util.Map;
+import java.util.Set;
 
 /** Calls of the class told as texts: "main 0 1 100". Counts them, as an object is good for 512. */
 final class Calls {
     private static final Map<String, Method> FACE = new HashMap<>();
+    private static final String[] REFUSALS = {"UNKNOWN", "OUTSIDE", "STATE", "FULL", "NO"};
     private static final int MOST_STEPS = 400;
 
     static {
@@ -17,8 +20,28 @@ final class Calls {
         }
     }
 
-    final PipeWorks works = new PipeWorks();
+    final PipeWorks works;
+    /** A name and a refusal ("draw NO") for each that came. */
+    final Set<String> refusals = new HashSet<>();
     int count;
+
+    Calls() {
+        this(new PipeWorks());
+    }
+
+    Calls(PipeWorks works) {
+        this.works = works;
+    }
+
+    /** The refusal that an answer of a call stands for; empty: none. Flows and readings may be small numbers below 0. */
+    static String refusal(String name, int answer) {
+        int moved = switch (name) {
+            case "press", "flow" -> answer + 1000000;
+            case "read" -> answer + 10000000;
+            default -> answer;
+        };
+        return moved <= PipeWorks.UNKNOWN && moved >= PipeWorks.NO ? REFUSALS[-1 - moved] : "";
+    }
 
     /** Runs a call, or one of the short forms goto, tell, text and N * call; the last call's answer. */
     int run(String line) {
@@ -72,10 +95,19 @@ final class Calls {
             numbers[i] = isInt ? (Object) Integer.valueOf(words[i + 1]) : (Object) Boolean.valueOf(words[i + 1]);
         }
         count++;
+        int answer = answer(m, numbers);
+        String refusal = refusal(words[0], answer);
+        if (!refusal.isEmpty()) {
+            refusals.add(words[0] + " " + refusal);
+        }
+        return answer;
+    }
+
+    private int answer(Method m, Object[] numbers) {
         try {
             return (Integer) m.invoke(works, numbers);
         } catch (InvocationTargetException | IllegalAccessException thrown) {
-            throw new IllegalStateException(String.join(" ", words), thrown.getCause());
+            throw new IllegalStateException(m.getName(), thrown);
         }
     }
 }

@@ -64,12 +64,9 @@ final class EdgesTest {
         return NAMES.containsKey(want) ? NAMES.get(want) : Integer.parseInt(want);
     }
 
-    /** A net that does not settle is worked all the same; flows and readings may be small numbers below 0. */
+    /** A net that does not settle is worked all the same. */
     private static boolean isRefusal(String line, int got) {
         String name = line.split(" ")[0];
-        if (List.of("flow", "press", "read").contains(name)) {
-            return got == -1000001 || got == -1000002 || got == -10000001;
-        }
-        return !List.of("work", "text").contains(name) && got <= PipeWorks.UNKNOWN && got >= PipeWorks.NO;
+        return !List.of("work", "text").contains(name) && !Calls.refusal(name, got).isEmpty();
     }
 }

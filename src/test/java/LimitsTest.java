@@ -22,7 +22,7 @@ final class LimitsTest {
     }
 
     /** 12 nodes, 18 mains, 12 valves, all orders, blocks and signs. */
-    private static PipeWorks full() {
+    static PipeWorks full() {
         PipeWorks x = new PipeWorks();
         for (int i = 0; i < 12; i++) {
             x.node(0, 0);
